@@ -418,6 +418,9 @@ public final class PromisesTest {
         due("13: job 1 could come first", q.earliestStart(1), 0);
         due("16: but does not", q.plannedStart(1), 2);
         due("14: job 0 could come last", q.latestStart(0), 2);
+        q.move(1, 30, 32);
+        due("13: a window with room for one start", q.earliestStart(1), 30);
+        due("14: a window with room for one start", q.latestStart(1), 30);
     }
 
     private static void promise15Open() {
