@@ -21,6 +21,7 @@ public final class BlockBoundariesTest {
         Checked.sentence("6: FULL when 4 blocks are there", BlockBoundariesTest::fullAtFour);
         Checked.sentence("6: not FULL when 3 blocks are there", BlockBoundariesTest::notFullAtThree);
         Checked.sentence("6: REFUSED when with this block there would be no good plan", BlockBoundariesTest::refusedBlocks);
+        Checked.sentence("6: not REFUSED when another good plan is left", BlockBoundariesTest::jobsGiveWay);
         Checked.sentence("6: never REFUSED when there are no jobs", BlockBoundariesTest::neverRefusedWithoutJobs);
         Checked.sentence("6: never REFUSED when there are no jobs any more", BlockBoundariesTest::neverRefusedAfterTheJobs);
         Checked.sentence("6: by the first that applies, BAD before FULL", BlockBoundariesTest::badBeforeFull);
@@ -103,6 +104,11 @@ public final class BlockBoundariesTest {
                 p.unblock(0).is(good);
             }
         }
+        Checked.forManyInts(t -> {
+            empty().block(t, 40).is(t >= 0 && t < 40 ? 0 : BAD);
+            empty().block(0, t).is(t > 0 && t <= 40 ? 0 : BAD);
+            empty().block(t, t + 1).is(t >= 0 && t < 40 ? 0 : BAD);
+        });
     }
 
     private static void fullAtFour() {
@@ -151,6 +157,22 @@ public final class BlockBoundariesTest {
             Checked p = new Checked(length, 1);
             p.offer(s, s + length).is(0);
             p.block(a, a + 1).is(a >= s && a < s + length ? REFUSED : 0);
+        }
+    }
+
+    private static void jobsGiveWay() {
+        for (int length = 1; length <= 6; length++) {
+            Checked p = new Checked(length, 2);
+            p.offer(0, 2 * length).is(0);
+            p.offer(0, 40).is(1);
+            // The block stands where the first plan has the jobs, but they can be done behind it.
+            p.block(0, length).is(0);
+            p.plannedStart(0).is(length);
+            p.plannedStart(1).is(2 * length);
+            p.block(2 * length, 40 - length).is(1);
+            p.plannedStart(1).is(40 - length);
+            p.block(39, 40).is(REFUSED);
+            p.plannedStart(1).is(40 - length);
         }
     }
 

@@ -173,7 +173,22 @@ public final class JobBoundariesTest {
                     p.withdraw(0).is(!bad);
                 }
             }
+            int span = length;
+            forManyWindows((r, d) -> new Checked(span, 1).offer(r, d).is(isBad(r, d, span) ? BAD : 0));
         }
+    }
+
+    private interface WindowTest {
+        void accept(int r, int d);
+    }
+
+    /** Windows that would be good if only the low bits of a number were looked at. */
+    private static void forManyWindows(WindowTest test) {
+        Checked.forManyInts(odd -> {
+            test.accept(odd, 40);
+            test.accept(0, odd);
+            test.accept(odd, odd + 6);
+        });
     }
 
     private static void fullAtCapacity() {
@@ -363,6 +378,8 @@ public final class JobBoundariesTest {
                     p.probe(r, d).is(isBad(r, d, length) ? BAD : 0);
                 }
             }
+            int span = length;
+            forManyWindows((r, d) -> new Checked(span, 1).probe(r, d).is(isBad(r, d, span) ? BAD : 0));
         }
     }
 
@@ -449,6 +466,12 @@ public final class JobBoundariesTest {
                     p.move(0, r, d).is(isBad(r, d, length) ? BAD : 0);
                 }
             }
+            int span = length;
+            forManyWindows((r, d) -> {
+                Checked p = new Checked(span, 1);
+                p.offer(0, 40).is(0);
+                p.move(0, r, d).is(isBad(r, d, span) ? BAD : 0);
+            });
         }
     }
 
